@@ -270,7 +270,8 @@ public final class BurnedDown {
         long with = gathering.value(thing, minute);
         long all = gathering.together(thing, counting);
         long shared = greatestDivisor(all, with);
-        if (with == 0 || shared == 0) {
+        if (shared == 0) {
+            // There are no WAYS at all: 0 by 1.
             return part;
         }
         return (part == 0 ? with : all) / shared;

@@ -260,6 +260,12 @@ public final class PromiseTests {
         due("damp behind", x.left(5, 2, 1), 760);
     }
 
+    private static BurnedDown with100() {
+        BurnedDown x = with("d1000,99");
+        x.window(100, 109);
+        return x;
+    }
+
     private static void left() {
         promise = 8;
         lefts();
@@ -276,6 +282,8 @@ public final class PromiseTests {
         // A DAMP one that stands still outside of the WINDOW moves in it.
         due("damp", x.left(3, 0, 100), 260);
         due("damp", x.left(3, 0, 299), 250);
+        due("damp 100 at most", with100().left(0, 100, 1), 200);
+        due("damp 100 at most", with100().left(0, 99, 1), 208);
         x.window(0, 299);
         due("while 0 at least", x.left(2, 0, 15), 0);
         due("minutes beyond 299 are in no window", x.left(2, 299, 299), 93);
@@ -766,6 +774,14 @@ public final class PromiseTests {
         due("no ways", x.ahead(0, 1), -9);
         due("no ways", x.ahead(0, 3), -9);
         x = with(PLAIN, PLAIN);
+        between(x, 0, 0, 0);
+        due("at 0", x.ahead(0, 1), 2);
+        x.join(1, 0, 1, 1);
+        due("at 0", x.ahead(0, 1), 1);
+        x.join(1, 0, 3, 0);
+        due("both at 0", x.ahead(0, 1), 0);
+        due("both at 0", x.ahead(1, 0), 0);
+        x = with(PLAIN, PLAIN);
         between(x, 0, 10, 20);
         between(x, 1, 21, 30);
         due("apart", x.ahead(0, 1), 1);
@@ -812,6 +828,10 @@ public final class PromiseTests {
         x.join(5, 4, 1, 100);
         due("may behind", x.narrow(5, 99), -9);
         due("may behind", x.narrow(5, 100), 1);
+        BurnedDown single = with("k5,5");
+        due("each with one way", single.narrow(0, 9), 10);
+        single.look(0, 0, 5, 5);
+        due("0", single.narrow(0, 9), 1);
         due("no such", x.narrow(6, -1), -1);
         due("no such", x.narrow(-1, 300), -1);
         due("below", x.narrow(0, -1), -4);
@@ -914,7 +934,23 @@ public final class PromiseTests {
             due("a look again", x.look(2, 0, 5, 5), 2);
             due("a thing has no joining", x.join(2, 0, 1, 1), 1);
         }
-        // A THING made anew has no joining left from one that was.
+        // Nothing is left of THINGS that are no more.
+        x = new BurnedDown();
+        x.candidate(1, 2);
+        x.image();
+        thing(x, PLAIN);
+        thing(x, PLAIN);
+        thing(x, PLAIN);
+        x.join(1, 0, 0, 299);
+        x.join(2, 1, 0, 1);
+        due("doubts", x.doubts(), -9);
+        due("on", x.on(), 0);
+        due("doubts", x.doubts(), 0);
+        due("ways", x.ways(), 1);
+        due("hangs", x.hangs(), -9);
+        due("opened", x.opened(), 0);
+        due("next", x.next(9), -9);
+        // A THING made anew has no JOINING left from one that was.
         x = with(PLAIN);
         x.image();
         thing(x, PLAIN);

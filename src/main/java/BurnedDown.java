@@ -179,7 +179,7 @@ public final class BurnedDown {
     }
 
     public int join(int thing, int other, int kind, int n) {
-        if (thing == 0 || !isThing(thing) || other < -1 || other >= thing) {
+        if (!isThing(thing) || other < -1 || other >= thing) {
             return refuse(NOBODY);
         }
         if (other == -1) {

@@ -153,7 +153,7 @@ final class PlainBurned {
     }
 
     long join(int thing, int other, int kind, int n) {
-        if (!is(thing) || thing == 0) return refuse(-1);
+        if (!is(thing)) return refuse(-1);
         if (other != -1 && (!is(other) || other >= thing)) return refuse(-1);
         if (other == -1) {
             joins.set(thing, null);

@@ -371,8 +371,9 @@ public final class PromiseTests {
         BurnedDown x = with(PLAIN, PLAIN, PLAIN);
         due("no such", x.join(3, 0, 9, -1), -1);
         due("no such", x.join(-1, -1, 0, 0), -1);
-        due("not 0", x.join(0, -1, 0, 0), -1);
-        due("not 0", x.join(0, 0, 0, 0), -1);
+        due("none lesser than 0", x.join(0, 0, 0, 0), -1);
+        due("none lesser than 0", x.join(0, 1, 0, 0), -1);
+        due("no such other", x.join(0, -2, 0, 0), -1);
         due("itself", x.join(1, 1, 0, 0), -1);
         due("a greater one", x.join(1, 2, 0, 0), -1);
         due("no such other", x.join(1, -2, 0, 0), -1);
@@ -395,10 +396,27 @@ public final class PromiseTests {
         due("none again", x.join(2, -1, 0, 999), 1);
         due("count 3", x.count(3), 1);
         due("ways", x.ways(), 300);
-        due("count -1", x.count(11), 8);
+        due("count -1", x.count(11), 9);
         due("count -2", x.count(12), 3);
         due("count -4", x.count(14), 1);
         due("count -6", x.count(16), 1);
+        joinFirstToNone();
+    }
+
+    /** THING 0 can be joined to no other one; to none it can. */
+    private static void joinFirstToNone() {
+        BurnedDown x = new BurnedDown();
+        due("no things", x.join(0, -1, 0, 0), -1);
+        x = with(PLAIN, PLAIN);
+        x.join(1, 0, 0, 299);
+        due("first to none", x.join(0, -1, 0, 0), 1);
+        due("first to none, whatever kind and n are", x.join(0, -1, 9, -9), 1);
+        due("the other joining stands", x.ways(), 1);
+        due("count 3", x.count(3), 1);
+        due("no such to none", x.join(2, -1, 0, 0), -1);
+        due("no such to none", x.join(-1, -1, 0, 0), -1);
+        due("count -1", x.count(11), 2);
+        for (int what = 12; what <= 16; what++) due("count " + what, x.count(what), 0);
     }
 
     private static void alone() {

@@ -1,44 +1,7 @@
 /** For each promise of the document: ordinary calls, the edges that it names, each refusal in its order. */
-public final class PromiseTests {
-    private static int wrong = 0;
-    private static int promise = 0;
-
-    private static void due(String call, long got, long want) {
-        if (got != want) {
-            wrong++;
-            System.out.println("promise " + promise + ": " + call + " answered " + got + ", due is " + want);
-        }
-    }
-
-    private static void feedText(BurnedDown x, String text) {
-        for (int i = 0; i < text.length(); i += 8) {
-            int n = Math.min(8, text.length() - i);
-            long bytes = 0;
-            for (int j = 0; j < n; j++) bytes |= (long) text.charAt(i + j) << 8 * j;
-            x.feed(n, bytes);
-        }
-    }
-
-    private static int thing(BurnedDown x, String text) {
-        feedText(x, text);
-        return x.thing();
-    }
-
-    private static BurnedDown with(String... texts) {
-        BurnedDown x = new BurnedDown();
-        for (int i = 0; i < texts.length; i++) due("thing " + texts[i], thing(x, texts[i]), i);
-        return x;
-    }
-
-    /** A LOOK that leaves MINUTES from .. to of an EVEN THING of 1000 and 1. */
-    private static int between(BurnedDown x, int thing, int from, int to) {
-        return x.look(thing, 299, 1000 - 299 + from, 1000 - 299 + to);
-    }
-
-    private static final String PLAIN = "e1000,1";
-
+public final class PromiseTests extends Due {
     private static void newObject() {
-        promise = 1;
+        says("Promise 1");
         BurnedDown x = new BurnedDown();
         for (int what = 0; what <= 6; what++) due("count " + what, x.count(what), 0);
         for (int what = 11; what <= 16; what++) due("count " + what, x.count(what), 0);
@@ -56,7 +19,7 @@ public final class PromiseTests {
     }
 
     private static void feed() {
-        promise = 2;
+        says("Promise 2");
         BurnedDown x = new BurnedDown();
         due("feed 0", x.feed(0, 5), -4);
         due("feed least", x.feed(Integer.MIN_VALUE, 5), -4);
@@ -102,7 +65,7 @@ public final class PromiseTests {
     }
 
     private static void things() {
-        promise = 3;
+        says("Promise 3");
         faults();
         BurnedDown x = with("e0,0", "t9999,99", "s1,1", "w12,12", "d123,3", "k0007,00");
         due("count 0", x.count(0), 6);
@@ -127,7 +90,7 @@ public final class PromiseTests {
     }
 
     private static void thingOf() {
-        promise = 4;
+        says("Promise 4");
         BurnedDown x = with("e0,0", "t9999,99", "s1,1", "w12,12", "d123,3", "k0007,00");
         int[] beginnings = {0, 9999, 1, 12, 123, 7};
         int[] paces = {0, 99, 1, 12, 3, 0};
@@ -146,7 +109,7 @@ public final class PromiseTests {
     }
 
     private static void room() {
-        promise = 5;
+        says("Promise 5");
         BurnedDown x = with("t100,50", "d100,25");
         due("toward 200", x.left(0, 0, 1), 150);
         due("room 0", x.room(0), 200);
@@ -170,7 +133,7 @@ public final class PromiseTests {
     }
 
     private static void window() {
-        promise = 6;
+        says("Promise 6");
         BurnedDown x = with("w100,1");
         due("window", x.window(10, 19), 1);
         due("both in it", x.left(0, 0, 299), 90);
@@ -204,7 +167,7 @@ public final class PromiseTests {
     }
 
     private static void candidate() {
-        promise = 7;
+        says("Promise 7");
         BurnedDown x = new BurnedDown();
         due("below", x.candidate(-1, 0), -4);
         due("to below from", x.candidate(2, 1), -4);
@@ -267,7 +230,7 @@ public final class PromiseTests {
     }
 
     private static void left() {
-        promise = 8;
+        says("Promise 8");
         lefts();
         BurnedDown x = with("d1000,50", "d1000,49", "w100,7", "d260,1");
         x.window(100, 109);
@@ -300,7 +263,7 @@ public final class PromiseTests {
     }
 
     private static void look() {
-        promise = 9;
+        says("Promise 9");
         BurnedDown x = with("e100,1");
         due("no such", x.look(1, -1, 0, 0), -1);
         due("no such", x.look(-1, 0, 0, 0), -1);
@@ -341,7 +304,7 @@ public final class PromiseTests {
     }
 
     private static void doubt() {
-        promise = 10;
+        says("Promise 10");
         BurnedDown x = with("e100,1");
         due("no such", x.doubt(0, true), -1);
         x.look(0, 50, 100, 100);
@@ -367,7 +330,7 @@ public final class PromiseTests {
     }
 
     private static void join() {
-        promise = 11;
+        says("Promise 11");
         BurnedDown x = with(PLAIN, PLAIN, PLAIN);
         due("no such", x.join(3, 0, 9, -1), -1);
         due("no such", x.join(-1, -1, 0, 0), -1);
@@ -420,7 +383,7 @@ public final class PromiseTests {
     }
 
     private static void alone() {
-        promise = 12;
+        says("Promise 12");
         BurnedDown x = with(PLAIN, PLAIN);
         due("without looks", x.alone(0), 300);
         between(x, 0, 10, 20);
@@ -440,7 +403,7 @@ public final class PromiseTests {
     }
 
     private static void can() {
-        promise = 13;
+        says("Promise 13");
         BurnedDown x = with(PLAIN, PLAIN);
         between(x, 0, 10, 20);
         for (int b = 0; b < 300; b++) {
@@ -464,7 +427,7 @@ public final class PromiseTests {
     }
 
     private static void ways() {
-        promise = 14;
+        says("Promise 14");
         due("no things", new BurnedDown().ways(), 1);
         BurnedDown x = with(PLAIN, PLAIN, PLAIN, PLAIN, PLAIN, PLAIN);
         due("six", x.ways(), 729000000000000L);
@@ -491,7 +454,7 @@ public final class PromiseTests {
     }
 
     private static void may() {
-        promise = 15;
+        says("Promise 15");
         BurnedDown x = with(PLAIN, PLAIN, PLAIN, PLAIN);
         due("without", x.may(3), 300);
         x.join(1, 0, 1, 100);
@@ -521,7 +484,7 @@ public final class PromiseTests {
     }
 
     private static void run() {
-        promise = 16;
+        says("Promise 16");
         BurnedDown x = with("w100,1", PLAIN);
         due("whole from", x.run(1, 0, 0), 0);
         due("whole to", x.run(1, 0, 1), 299);
@@ -559,7 +522,7 @@ public final class PromiseTests {
     }
 
     private static void chance() {
-        promise = 17;
+        says("Promise 17");
         BurnedDown x = with(PLAIN, PLAIN, PLAIN);
         due("above", x.chance(0, 0, 0), 1);
         due("below", x.chance(0, 0, 1), 300);
@@ -598,7 +561,7 @@ public final class PromiseTests {
     }
 
     private static void put() {
-        promise = 18;
+        says("Promise 18");
         BurnedDown x = new BurnedDown();
         due("below", x.put(-1), -4);
         due("above", x.put(300), -6);
@@ -613,13 +576,8 @@ public final class PromiseTests {
         due("count -6", x.count(16), 2);
     }
 
-    private static int judged(BurnedDown x, int... minutes) {
-        for (int minute : minutes) x.put(minute);
-        return x.judge();
-    }
-
     private static void judge() {
-        promise = 19;
+        says("Promise 19");
         BurnedDown x = with(PLAIN, PLAIN, PLAIN);
         due("too short", judged(x), 1000);
         due("too short", judged(x, 1, 2), 1000);
@@ -662,7 +620,7 @@ public final class PromiseTests {
     }
 
     private static void doubts() {
-        promise = 20;
+        says("Promise 20");
         due("no things", new BurnedDown().doubts(), 0);
         BurnedDown x = with(PLAIN, PLAIN);
         due("no looks", x.doubts(), 0);
@@ -704,7 +662,7 @@ public final class PromiseTests {
     }
 
     private static void opened() {
-        promise = 21;
+        says("Promise 21");
         BurnedDown x = with("w100,1", PLAIN);
         due("no candidates", x.opened(), -9);
         x.look(0, 100, 50, 50);
@@ -731,7 +689,7 @@ public final class PromiseTests {
     }
 
     private static void hangs() {
-        promise = 22;
+        says("Promise 22");
         due("no things", new BurnedDown().hangs(), -9);
         BurnedDown x = with(PLAIN, PLAIN, PLAIN);
         due("no looks", x.hangs(), -9);
@@ -763,7 +721,7 @@ public final class PromiseTests {
     }
 
     private static void ahead() {
-        promise = 23;
+        says("Promise 23");
         BurnedDown x = with(PLAIN, PLAIN, PLAIN, PLAIN);
         due("some", x.ahead(0, 1), 2);
         due("some", x.ahead(1, 0), 2);
@@ -818,7 +776,7 @@ public final class PromiseTests {
     }
 
     private static void narrow() {
-        promise = 24;
+        says("Promise 24");
         BurnedDown x = with("e100,1", "s100,1", "w100,1", "t300,10", "k5,5", "e10,1");
         due("even", x.narrow(0, 50), 1);
         due("even, run down", x.narrow(0, 299), 200);
@@ -860,7 +818,7 @@ public final class PromiseTests {
     }
 
     private static void next() {
-        promise = 25;
+        says("Promise 25");
         due("no things", new BurnedDown().next(0), -9);
         BurnedDown x = with("k5,5", "s1000,1", "e1000,1", "e1000,2");
         due("the least of several", x.next(0), 0);
@@ -882,7 +840,7 @@ public final class PromiseTests {
     }
 
     private static void image() {
-        promise = 26;
+        says("Promise 26");
         BurnedDown x = new BurnedDown();
         due("image of none", x.image(), 0);
         thing(x, PLAIN);
@@ -901,7 +859,7 @@ public final class PromiseTests {
     }
 
     private static void on() {
-        promise = 27;
+        says("Promise 27");
         BurnedDown x = new BurnedDown();
         due("none", x.on(), -3);
         due("none", x.on(), -3);
@@ -982,7 +940,7 @@ public final class PromiseTests {
     }
 
     private static void count() {
-        promise = 28;
+        says("Promise 28");
         BurnedDown x = with(PLAIN, PLAIN, PLAIN);
         x.look(0, 1, 1, 1);
         x.look(0, 1, 1, 1);
@@ -1053,7 +1011,6 @@ public final class PromiseTests {
         image();
         on();
         count();
-        System.out.println("PromiseTests: " + (wrong == 0 ? "all answers are as due" : wrong + " answers are not as due"));
-        if (wrong != 0) System.exit(1);
+        end("PromiseTests");
     }
 }

@@ -873,11 +873,12 @@ public final class BurnedDown {
         private int nearing(int beginning, int outside, int inside, int b, int end) {
             int left = beginning;
             for (int minute = b; minute < end; minute++) {
-                if (nearer(left, inside) == left) {
+                int moved = nearer(left, inWindow(minute) ? inside : outside);
+                if (moved == left && nearer(left, inside) == left) {
                     // What the quicker pace does not move, the slower one does not move either.
                     return left;
                 }
-                left = nearer(left, inWindow(minute) ? inside : outside);
+                left = moved;
             }
             return left;
         }

@@ -40,6 +40,17 @@ public final class PromiseEdges extends Due {
         due("the other keeps its own", other.ways(), 300L * 300 * 300 * 300 * 300);
     }
 
+    private static void lastOfAllCalls() {
+        says("An object is used for at most 512 calls after it has been made");
+        BurnedDown x = new BurnedDown();
+        for (int i = 0; i < 511; i++) due("put", x.put(-1), -4);
+        due("the 512th", x.count(14), 511);
+        x = with("k5,5");
+        for (int i = 2; i < 511; i++) x.room(i);
+        due("the 511th", x.room(0), 510);
+        due("the 512th", x.ways(), 300);
+    }
+
     private static void bytesComeLowestFirst() {
         says("Promise 2: n (1 .. 8) bytes come, the lowest first: how many THE TAPE has");
         long word = 0x35342C3332313064L; // d0123,45
@@ -809,6 +820,7 @@ public final class PromiseEdges extends Due {
     public static void main(String[] args) {
         noThings();
         objectsApart();
+        lastOfAllCalls();
         bytesComeLowestFirst();
         bytesAboveN();
         feedEnds();

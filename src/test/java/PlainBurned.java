@@ -1,13 +1,15 @@
+import java.math.BigInteger;
 import java.util.ArrayList;
+import java.util.BitSet;
 import java.util.List;
 import java.util.TreeMap;
+import java.util.TreeSet;
 
 /**
  * The document done over in the plainest way, as a measure for BurnedDown: every WAY is told one by one, every set
- * of LOOKS is tried. What would take too long answers SKIP.
+ * of LOOKS is tried. Where there are too many WAYS to tell them, Arcs answers; where there are few, both must agree.
  */
 final class PlainBurned {
-    static final long SKIP = Long.MIN_VALUE;
     private static final int MOST_WAYS = 60_000;
     private static final int MOST_STEPS = 500_000;
 
@@ -172,7 +174,7 @@ final class PlainBurned {
         return look.low() <= left && left <= look.high();
     }
 
-    private boolean keeps(Join join, int mine, int others) {
+    static boolean keeps(Join join, int mine, int others) {
         return switch (join.kind()) {
             case 0 -> mine == others + join.n();
             case 1 -> mine >= others + join.n();
@@ -253,30 +255,64 @@ final class PlainBurned {
         return allWays(doubtedBits(), fitting(window), MOST_WAYS);
     }
 
-    long ways() {
-        List<int[]> all = now();
-        return all == null ? SKIP : all.size();
+    private BitSet[] alones(int out, boolean[][] fitting) {
+        BitSet[] alone = new BitSet[things.size()];
+        for (int t = 0; t < alone.length; t++) {
+            alone[t] = new BitSet(Arcs.MINUTES);
+            for (int b : aloneOf(t, out, fitting)) alone[t].set(b);
+        }
+        return alone;
     }
 
-    private static TreeMap<Integer, Integer> minutesOf(List<int[]> all, int thing) {
-        TreeMap<Integer, Integer> minutes = new TreeMap<>();
-        for (int[] way : all) minutes.merge(way[thing], 1, Integer::sum);
-        return minutes;
+    private BitSet[] alonesNow() {
+        return alones(doubtedBits(), fitting(window));
+    }
+
+    private static void agree(boolean same) {
+        if (!same) throw new IllegalStateException("the plain model does not agree with itself");
+    }
+
+    private long waysBut(int out) {
+        boolean[][] fitting = fitting(window);
+        BigInteger counted = new Arcs(joins).ways(alones(out, fitting));
+        List<int[]> all = allWays(out, fitting, MOST_WAYS);
+        agree(all == null || counted.equals(BigInteger.valueOf(all.size())));
+        return counted.longValueExact();
+    }
+
+    private boolean someWay(int out, boolean[][] fitting) {
+        boolean some = new Arcs(joins).some(alones(out, fitting));
+        List<int[]> one = allWays(out, fitting, 1);
+        agree(one == null || some == !one.isEmpty());
+        return some;
+    }
+
+    long ways() {
+        return waysBut(doubtedBits());
+    }
+
+    private TreeSet<Integer> mayOf(int thing) {
+        TreeSet<Integer> may = new TreeSet<>();
+        new Arcs(joins).may(alonesNow())[thing].stream().forEach(may::add);
+        List<int[]> all = now();
+        if (all != null) {
+            TreeSet<Integer> told = new TreeSet<>();
+            for (int[] way : all) told.add(way[thing]);
+            agree(told.equals(may));
+        }
+        return may;
     }
 
     long may(int thing) {
         if (!is(thing)) return refuse(-1);
-        List<int[]> all = now();
-        return all == null ? SKIP : minutesOf(all, thing).size();
+        return mayOf(thing).size();
     }
 
     long run(int thing, int i, int what) {
         if (!is(thing)) return refuse(-1);
         if (what < 0 || what > 1) return refuse(-2);
-        List<int[]> all = now();
-        if (all == null) return SKIP;
         List<int[]> runs = new ArrayList<>();
-        for (int b : minutesOf(all, thing).keySet()) {
+        for (int b : mayOf(thing)) {
             if (!runs.isEmpty() && runs.get(runs.size() - 1)[1] == b - 1) runs.get(runs.size() - 1)[1] = b;
             else runs.add(new int[] {b, b});
         }
@@ -288,15 +324,22 @@ final class PlainBurned {
         if (part < 0 || part > 1) return refuse(-2);
         if (minute < 0) return refuse(-4);
         if (minute > 299) return refuse(-6);
+        long all = waysBut(doubtedBits());
+        BigInteger with = BigInteger.valueOf(waysWith(thing, minute));
+        if (with.signum() == 0) return part;
+        BigInteger above = with.divide(with.gcd(BigInteger.valueOf(all)));
+        return part == 0 ? above.longValueExact() : all / (with.longValueExact() / above.longValueExact());
+    }
+
+    private long waysWith(int thing, int minute) {
+        BitSet[] alone = alonesNow();
+        boolean stands = alone[thing].get(minute);
+        alone[thing].clear();
+        alone[thing].set(minute, stands);
+        long with = new Arcs(joins).ways(alone).longValueExact();
         List<int[]> all = now();
-        if (all == null) return SKIP;
-        int with = minutesOf(all, thing).getOrDefault(minute, 0);
-        if (with == 0) return part;
-        int g = 1;
-        for (int d = 1; d <= with; d++) {
-            if (with % d == 0 && all.size() % d == 0) g = d;
-        }
-        return (part == 0 ? with : all.size()) / g;
+        agree(all == null || all.stream().filter(way -> way[thing] == minute).count() == with);
+        return with;
     }
 
     long put(int v) {
@@ -331,34 +374,27 @@ final class PlainBurned {
         for (int set = 0; set < 1 << looks.size(); set++) {
             if ((set & already) != 0) continue;
             if (best >= 0 && Integer.bitCount(set) >= Integer.bitCount(best)) continue;
-            List<int[]> one = allWays(set | already, fitting, 1);
-            if (one == null) return SKIP;
-            if (!one.isEmpty()) best = set;
+            if (someWay(set | already, fitting)) best = set;
         }
         return best;
     }
 
     long opened() {
         for (int i = 0; i < candidates.size(); i++) {
-            List<int[]> one = allWays(doubtedBits(), fitting(candidates.get(i)), 1);
-            if (one == null) return SKIP;
-            if (!one.isEmpty()) return i;
+            if (someWay(doubtedBits(), fitting(candidates.get(i)))) return i;
         }
         return -9;
     }
 
     long hangs() {
-        List<int[]> all = now();
-        if (all == null) return SKIP;
-        int most = all.size();
+        long most = ways();
         int found = -9;
         for (int t = 0; t < things.size(); t++) {
             int out = doubtedBits();
             for (int k = 0; k < looks.size(); k++) out |= looks.get(k).thing() == t ? 1 << k : 0;
-            List<int[]> without = allWays(out, fitting(window), MOST_WAYS);
-            if (without == null) return SKIP;
-            if (without.size() > most) {
-                most = without.size();
+            long without = waysBut(out);
+            if (without > most) {
+                most = without;
                 found = t;
             }
         }
@@ -367,8 +403,13 @@ final class PlainBurned {
 
     long ahead(int one, int other) {
         if (!is(one) || !is(other) || one == other) return refuse(-1);
+        int ahead = new Arcs(joins).ahead(alonesNow(), one, other);
         List<int[]> all = now();
-        if (all == null) return SKIP;
+        agree(all == null || ahead == aheadByWays(all, one, other));
+        return ahead;
+    }
+
+    private static int aheadByWays(List<int[]> all, int one, int other) {
         if (all.isEmpty()) return -9;
         int before = 0;
         for (int[] way : all) before += way[one] < way[other] ? 1 : 0;
@@ -379,13 +420,12 @@ final class PlainBurned {
         if (!is(thing)) return refuse(-1);
         if (minute < 0) return refuse(-4);
         if (minute > 299) return refuse(-6);
-        List<int[]> all = now();
-        return all == null ? SKIP : alike(all, thing, minute);
+        return alike(thing, minute);
     }
 
-    private long alike(List<int[]> all, int thing, int minute) {
+    private long alike(int thing, int minute) {
         TreeMap<Integer, Integer> numbers = new TreeMap<>();
-        for (int b : minutesOf(all, thing).keySet()) {
+        for (int b : mayOf(thing)) {
             if (b <= minute) numbers.merge(leftOf(things.get(thing), b, minute - b, window), 1, Integer::sum);
         }
         return numbers.values().stream().max(Integer::compare).orElse(-9);
@@ -394,12 +434,14 @@ final class PlainBurned {
     long next(int minute) {
         if (minute < 0) return refuse(-4);
         if (minute > 299) return refuse(-6);
-        List<int[]> all = now();
-        if (all == null) return SKIP;
         int found = -9;
+        long least = 0;
         for (int t = things.size() - 1; t >= 0; t--) {
-            long alike = alike(all, t, minute);
-            if (alike != -9 && (found == -9 || alike <= alike(all, found, minute))) found = t;
+            long alike = alike(t, minute);
+            if (alike != -9 && (found == -9 || alike <= least)) {
+                found = t;
+                least = alike;
+            }
         }
         return found;
     }
